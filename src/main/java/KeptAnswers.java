@@ -908,7 +908,8 @@ public final class KeptAnswers {
         }
 
         boolean takeSign(int sign) {
-            if (!isSign(sign)) {
+            skipBlanks();
+            if (at >= end || bytes[at] != sign) {
                 return fail(CANNOT_STAND, at);
             }
             at++;
@@ -1109,7 +1110,7 @@ public final class KeptAnswers {
             this.tape = tape;
         }
 
-        boolean readChoice(int level) {
+        private boolean readChoice(int level) {
             if (!readPart(level)) {
                 return false;
             }
@@ -1200,9 +1201,10 @@ public final class KeptAnswers {
             return tape.takeWord("b") ? addSign(OF_B) : failed(CANNOT_STAND, place);
         }
 
+        /** The sign of a relation; NONE: there was a fault. */
         private int readRelation() {
             int sign = tape.isSign('<') ? '<' : tape.isSign('>') ? '>' : '=';
-            return readSign(sign) ? sign : NONE;
+            return tape.takeSign(sign) ? addSign(sign) : NONE;
         }
 
         private boolean readSign(int sign) {
@@ -1478,7 +1480,7 @@ public final class KeptAnswers {
             for (int b = 0; b < SIDE; b++) {
                 n += counts[a * SIDE + b];
             }
-            return n > 0 ? Math.min(n, SIDE - 1) : NONE;
+            return n <= 0 ? NONE : n < SIDE ? n : SIDE - 1;
         }
 
         private static int sumMark(int[] counts, int a) {
@@ -1486,7 +1488,7 @@ public final class KeptAnswers {
             for (int b = 0; b < SIDE; b++) {
                 n += b * counts[a * SIDE + b];
             }
-            return Math.floorMod(n, SIDE);
+            return n & SIDE - 1;
         }
 
         /** The set of all B for which a line has more than 0. */
