@@ -74,7 +74,9 @@ final class AnswerEdges {
         for (int edition : EDITIONS) {
             boolean told = isTold(edition, front, folded);
             String as = "edition " + edition + ", front " + front + ", folded " + folded;
-            edges.sentence(17, "TOLD is what a NODE has as of an EDITION, if that is DONE on its SHELF, and not below FOLDED less 1 (EDITION 0 and all others, while FOLDED is 0 or 1).");
+            edges.sentence(17,
+                "TOLD is what a NODE has as of an EDITION, if that is DONE on its SHELF, and not below "
+                + "FOLDED less 1 (EDITION 0 and all others, while FOLDED is 0 or 1).");
             edges.due("a table: " + as, isTold(edition, 6, folded) ? edition + 1 : VOID,
                 x.weight(0, 0, edition, 1, 2));
             edges.sentence(17, "VOID: that is not TOLD.");
@@ -133,7 +135,8 @@ final class AnswerEdges {
     }
 
     private void toldOfWhen(int front, int folded) {
-        edges.sentence(31, "WHEN: the EDITIONS that are TOLD for a QUESTION, and the one ahead of which is TOLD,");
+        edges.sentence(31,
+            "WHEN: the EDITIONS that are TOLD for a QUESTION, and the one ahead of which is TOLD,");
         KeptAnswers x = worked(front, folded);
         String as = "front " + front + ", folded " + folded;
         edges.due("a loop: " + as, front > 0 && folded < 2 ? 0 : NONE, x.when(0, 1, 2, 0));
@@ -238,7 +241,10 @@ final class AnswerEdges {
     // ---- promise 21 and 22
 
     private void changed() {
-        edges.sentence(21, "CHANGED of a NODE in an EDITION that is TOLD (and the one ahead, if there is one): for how many ROWS its COUNT is not as it was as of the EDITION ahead (0 as of the one ahead of EDITION 0).");
+        edges.sentence(21,
+            "CHANGED of a NODE in an EDITION that is TOLD (and the one ahead, if there is one): for how "
+            + "many ROWS its COUNT is not as it was as of the EDITION ahead (0 as of the one ahead of "
+            + "EDITION 0).");
         edges.due("edition 0, nothing there", 0, Made.done("flip(t0)").changed(0, 1, 0));
         edges.due("edition 0, all rows", 256, everyRow("flip(t0)").changed(0, 1, 0));
         edges.due("owed rows too", 256, everyRow("less(t1,t0)").changed(0, 2, 0));
@@ -297,7 +303,9 @@ final class AnswerEdges {
     // ---- promise 31 to 33
 
     private void when() {
-        edges.sentence(31, "in which ANSWER for a ROW is not what it was as of the one ahead (EDITION 0: if it is above 0).");
+        edges.sentence(31,
+            "in which ANSWER for a ROW is not what it was as of the one ahead (EDITION 0: if it is above "
+            + "0).");
         KeptAnswers x = new KeptAnswers();
         Checks.ask(x, "flip(t0)");
         // as of each: -1, 0, 1, 1, 3, -2, -1, 2
@@ -357,7 +365,9 @@ final class AnswerEdges {
         edges.due("the first row", 1, x.unlike(5, 0, 0));
         edges.due("both of them", 2, x.unlike(4, 5, 0));
         edges.due("a question and itself", 0, x.unlike(4, 4, 0));
-        edges.sentence(32, "UNLIKE are two QUESTIONS, as of an EDITION that is TOLD for both, at ROWS for which ANSWERS are.");
+        edges.sentence(32,
+            "UNLIKE are two QUESTIONS, as of an EDITION that is TOLD for both, at ROWS for which ANSWERS "
+            + "are.");
         edges.due("below 0 is as 0", 0, x.unlike(1, 2, 0));
         edges.due("the other way", 0, x.unlike(2, 1, 0));
         edges.due("below 0 and above 0", 256, x.unlike(2, 0, 0));

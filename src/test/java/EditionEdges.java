@@ -382,7 +382,8 @@ final class EditionEdges {
     // ---- promise 36
 
     private void told() {
-        edges.sentence(36, "Of a CHANGE: 0 TABLE, 1 A, 2 B, 3 how many more, 4 its EDITION, 5 whether it is LATE (1, 0).");
+        edges.sentence(36,
+            "Of a CHANGE: 0 TABLE, 1 A, 2 B, 3 how many more, 4 its EDITION, 5 whether it is LATE (1, 0).");
         KeptAnswers x = Made.closed(99);
         x.room(1);
         x.change(3, 15, 0, -9);
@@ -460,7 +461,9 @@ final class EditionEdges {
     // ---- promise 38
 
     private void count() {
-        edges.sentence(38, "0 EDITIONS closed, 1 CHANGES told, 2 those of the OPEN EDITION, 3 LATE ones, 4 QUESTIONS (not LEFT), 5 SHELVES that are, 6 FOLDED, 7 READERS that hold, 8 bytes of the TAPE;");
+        edges.sentence(38,
+            "0 EDITIONS closed, 1 CHANGES told, 2 those of the OPEN EDITION, 3 LATE ones, 4 QUESTIONS "
+            + "(not LEFT), 5 SHELVES that are, 6 FOLDED, 7 READERS that hold, 8 bytes of the TAPE;");
         int[] want = {3, 9, 3, 2, 3, 6, 2, 1, 20};
         for (int what = 0; what <= 8; what++) {
             int number = what;

@@ -88,7 +88,9 @@ final class OperatorEdges {
     }
 
     private void count() {
-        edges.sentence(9, "count: for each A: n, what it has for all ROWS with that A together: (A, n, but 15 at most) has 1, if n is above 0; all else 0.");
+        edges.sentence(9,
+            "count: for each A: n, what it has for all ROWS with that A together: (A, n, but 15 at most) "
+            + "has 1, if n is above 0; all else 0.");
         allDue("count", with("count(t0)",
             0, 0, 0, 1, 0, 1, 15, 14, 0, 2, 3, 15, 0, 3, 4, 16, 0, 4, 0, 17, 0, 5, 5, -1, 0, 6, 1, 1, 0, 6, 2, -1,
             0, 7, 1, 9, 0, 7, 2, -8, 0, 8, 1, -9, 0, 8, 2, 8, 0, 15, 0, 7, 0, 15, 15, 7),
@@ -105,7 +107,8 @@ final class OperatorEdges {
     }
 
     private void countWraps() {
-        edges.sentence(9, "Each operator has a COUNT for each ROW, by its operands' COUNTS (32 bits that wrap):");
+        edges.sentence(9,
+            "Each operator has a COUNT for each ROW, by its operands' COUNTS (32 bits that wrap):");
         allDue("count of the greatest", with("count(" + GREATEST_NUMBER + ")", extreme()), 1, 15, 1);
         allDue("count of the least", with("count(" + LEAST_NUMBER + ")", extreme()));
         // each has 2 to the 30th: 2 of them together are below 0, 4 are 0, 5 are above 0
@@ -124,7 +127,9 @@ final class OperatorEdges {
     }
 
     private void sum() {
-        edges.sentence(9, "sum: for each A: n, all B times what it has for (A, B) together: (A, what n leaves by 16, 0 to 15) has 1, if it is above 0 for some ROW with that A; all else 0.");
+        edges.sentence(9,
+            "sum: for each A: n, all B times what it has for (A, B) together: (A, what n leaves by 16, 0 "
+            + "to 15) has 1, if it is above 0 for some ROW with that A; all else 0.");
         allDue("sum", with("sum(t0)",
             // 0; 15; 16; 30; below 0 with one above; none above; above and below; -16; -15
             0, 0, 0, 5, 0, 1, 15, 1, 0, 2, 8, 2, 0, 3, 15, 2, 0, 4, 3, -1, 0, 4, 0, 1, 0, 5, 3, -1,
@@ -171,7 +176,9 @@ final class OperatorEdges {
     }
 
     private void middle() {
-        edges.sentence(9, "(the middle one, of an even number the lesser of both; the greatest) has 1 (if there is one); all else 0.");
+        edges.sentence(9,
+            "(the middle one, of an even number the lesser of both; the greatest) has 1 (if there is "
+            + "one); all else 0.");
         allDue("middle", lines("middle(t0)"),
             0, 0, 1, 1, 15, 1, 2, 4, 1, 3, 1, 1, 4, 3, 1, 5, 8, 1, 8, 3, 1, 15, 7, 1);
     }
@@ -183,7 +190,9 @@ final class OperatorEdges {
     }
 
     private void loop() {
-        edges.sentence(9, "loop: (A, B) has 1, if one comes from A to B by one or more ROWS for which it is above 0, each beginning where the one ahead ends; else 0.");
+        edges.sentence(9,
+            "loop: (A, B) has 1, if one comes from A to B by one or more ROWS for which it is above 0, "
+            + "each beginning where the one ahead ends; else 0.");
         int[] chain = new int[60];
         for (int i = 0; i < 15; i++) {
             System.arraycopy(rows(0, i, i + 1, 1 + i), 0, chain, 4 * i, 4);
@@ -210,7 +219,9 @@ final class OperatorEdges {
     }
 
     private void loopEnds() {
-        edges.sentence(9, "by one or more ROWS for which it is above 0, each beginning where the one ahead ends; else 0.");
+        edges.sentence(9,
+            "by one or more ROWS for which it is above 0, each beginning where the one ahead ends; else "
+            + "0.");
         allDue("no row", with("loop(t0)"));
         allDue("a row from 0 to 0", with("loop(t0)", 0, 0, 0, 1), 0, 0, 1);
         allDue("a row from 15 to 15", with("loop(t0)", 0, 15, 15, 9), 15, 15, 1);

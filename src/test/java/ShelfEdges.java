@@ -64,7 +64,8 @@ final class ShelfEdges {
     }
 
     private void leaveAll() {
-        edges.sentence(11, "a SHELF that is in no QUESTION any more, nor below one that is, is gone (its number, too);");
+        edges.sentence(11,
+            "a SHELF that is in no QUESTION any more, nor below one that is, is gone (its number, too);");
         KeptAnswers x = new KeptAnswers();
         ask(x, "flip(one(t0))");
         ask(x, "loop(flip(one(t0)))");
@@ -127,7 +128,9 @@ final class ShelfEdges {
         edges.due("twelve", 12, x.nodes(1));
         edges.due("alike ones are nodes each", 12, x.nodes(2));
         edges.due("but one shelf", 0, x.shelf(2, 0) - x.shelf(2, 11 - 1));
-        edges.sentence(12, "NODES of a QUESTION are its operators, numbered from 0 on as they END in the text (its last one is the whole).");
+        edges.sentence(12,
+            "NODES of a QUESTION are its operators, numbered from 0 on as they END in the text (its last "
+            + "one is the whole).");
         KeptAnswers y = new KeptAnswers();
         y.change(0, 1, 2, 3);
         y.change(1, 1, 2, 5);
@@ -293,7 +296,8 @@ final class ShelfEdges {
         Made.close(x, 3);
         edges.due("flip", 1, x.work(0, 1));
         edges.due("flip again", 2, x.work(0, 1));
-        edges.sentence(15, "A SHELF can be WORKED one EDITION further, if FRONTS of all its operands are above its own.");
+        edges.sentence(15,
+            "A SHELF can be WORKED one EDITION further, if FRONTS of all its operands are above its own.");
         edges.due("the second is not above", -1, x.work(0, 4));
         edges.due("one", 1, x.work(0, 3));
         edges.due("both are above", 1, x.work(0, 4));
@@ -338,7 +342,9 @@ final class ShelfEdges {
     }
 
     private void finish() {
-        edges.sentence(16, "All SHELVES of a QUESTION are WORKED till all closed EDITIONS are DONE: how many times one was.");
+        edges.sentence(16,
+            "All SHELVES of a QUESTION are WORKED till all closed EDITIONS are DONE: how many times one "
+            + "was.");
         KeptAnswers x = new KeptAnswers();
         ask(x, TWELVE);
         edges.due("nothing is closed", 0, x.finish(0));
@@ -375,7 +381,8 @@ final class ShelfEdges {
         edges.due("to 1", 1, x.fold(1));
         edges.due("to 3", 3, x.fold(3));
         edges.due("FOLDED", 3, x.count(6));
-        edges.sentence(23, "but not more than what is closed, than any SHELF's FRONT, than what any READER holds;");
+        edges.sentence(23,
+            "but not more than what is closed, than any SHELF's FRONT, than what any READER holds;");
         edges.due("6 of 5", 5, x.fold(6));
         edges.due("none is closed", 0, new KeptAnswers().fold(1));
         edges.due("100 of 100", 100, Made.closed(100).fold(100));
@@ -464,7 +471,8 @@ final class ShelfEdges {
     }
 
     private void readerHolds() {
-        edges.sentence(24, "each holds an EDITION (TOLD or not, not below FOLDED less 1): FOLDED is that one at most;");
+        edges.sentence(24,
+            "each holds an EDITION (TOLD or not, not below FOLDED less 1): FOLDED is that one at most;");
         for (int folded = 0; folded <= 5; folded++) {
             KeptAnswers x = Made.closed(6);
             x.fold(folded);
@@ -549,7 +557,9 @@ final class ShelfEdges {
     }
 
     private void lacks() {
-        edges.sentence(35, "LACKS of a QUESTION for an EDITION: how many times its SHELVES (each once, TABLES left out) are to be WORKED till that EDITION is DONE on all.");
+        edges.sentence(35,
+            "LACKS of a QUESTION for an EDITION: how many times its SHELVES (each once, TABLES left out) "
+            + "are to be WORKED till that EDITION is DONE on all.");
         KeptAnswers x = Made.closed(100);
         ask(x, TWELVE);
         ask(x, "t0");

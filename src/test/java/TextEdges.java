@@ -202,7 +202,10 @@ final class TextEdges {
     }
 
     private void operators() {
-        edges.sentence(9, "or W \"(\" E \")\", or V \"(\" E \",\" E \")\", or \"where\" \"(\" E \":\" C \")\". W: \"flip\", \"one\", \"count\", \"sum\", \"least\", \"middle\", \"most\", \"loop\". V: \"join\", \"add\", \"less\", \"both\".");
+        edges.sentence(9,
+            "or W \"(\" E \")\", or V \"(\" E \",\" E \")\", or \"where\" \"(\" E \":\" C \")\". W: "
+            + "\"flip\", \"one\", \"count\", \"sum\", \"least\", \"middle\", \"most\", \"loop\". V: "
+            + "\"join\", \"add\", \"less\", \"both\".");
         for (String word : "flip one count sum least middle most loop".split(" ")) {
             fine(word + "(t0)");
             textDue(word, 1, word.length());
@@ -251,7 +254,9 @@ final class TextEdges {
     }
 
     private void conditions() {
-        edges.sentence(9, "C: P { \"or\" P }. P: B { \"and\" B }. B: \"not\" B, \"[\" C \"]\", or X R X; R: <, > or =; X: \"a\", \"b\" or N;");
+        edges.sentence(9,
+            "C: P { \"or\" P }. P: B { \"and\" B }. B: \"not\" B, \"[\" C \"]\", or X R X; R: <, > or =; "
+            + "X: \"a\", \"b\" or N;");
         Object[][] conditions = {
             {"a<b", 120}, {"a>b", 120}, {"a=b", 16}, {"b<a", 120}, {"a=a", 256}, {"a<a", 0},
             {"a<0", 0}, {"a<1", 16}, {"a<15", 240}, {"a>15", 0}, {"a>14", 16}, {"a>0", 240},

@@ -37,7 +37,9 @@ final class WhyEdges {
     }
 
     private void way() {
-        edges.sentence(26, "WAY: of a NODE that is a loop, TOLD, from A to B: the fewest ROWS of its operand by which one comes there;");
+        edges.sentence(26,
+            "WAY: of a NODE that is a loop, TOLD, from A to B: the fewest ROWS of its operand by which "
+            + "one comes there;");
         KeptAnswers x = Made.done("loop(t0)", 0x01, 0x12, 0x23, 0x30, 0x02, 0x13);
         wayDue("one row", x, 1, 0, 2, 0x02);
         wayDue("two rows, of three", x, 1, 0, 3, 0x01, 0x13);
@@ -124,7 +126,9 @@ final class WhyEdges {
                     x.without(0, 0, cell % 16, cell / 16, 0, other / 16, other % 16));
             }
         }
-        edges.sentence(27, "WITHOUT: what ANSWER a QUESTION would have, as of an EDITION that is TOLD, if one ROW of a TABLE had COUNT 0 there.");
+        edges.sentence(27,
+            "WITHOUT: what ANSWER a QUESTION would have, as of an EDITION that is TOLD, if one ROW of a "
+            + "TABLE had COUNT 0 there.");
         edges.due("a row that has 0", 1, x.without(0, 0, 0, 0, 0, 7, 7));
         edges.due("of another table", 1, x.without(0, 0, 0, 0, 1, 0, 0));
         edges.due("an answer of 0 stays 0", 0, x.without(0, 0, 3, 3, 0, 0, 0));
@@ -181,7 +185,8 @@ final class WhyEdges {
         for (int cell : CORNERS) {
             edges.due("itself, " + cell, 1, corners.needed(0, 0, cell / 16, cell % 16, 0));
         }
-        edges.sentence(28, "NEEDED is a ROW of a TABLE for a ROW of an ANSWER above 0, if WITHOUT it that is 0.");
+        edges.sentence(28,
+            "NEEDED is a ROW of a TABLE for a ROW of an ANSWER above 0, if WITHOUT it that is 0.");
         KeptAnswers both = Made.done("add(t0,t1)", 0x11);
         edges.due("one of table 0", 1, both.needed(0, 0, 1, 1, 0));
         both.change(1, 1, 1, 1);
@@ -248,7 +253,10 @@ final class WhyEdges {
     }
 
     private void kernOneAfterTheOther() {
-        edges.sentence(29, "KERN of an ANSWER above 0: of all ROWS of all TABLES with a COUNT above 0 (by TABLES, A, B) one after the other is taken away (it has COUNT 0 then), if the ANSWER is still above 0; those that stay.");
+        edges.sentence(29,
+            "KERN of an ANSWER above 0: of all ROWS of all TABLES with a COUNT above 0 (by TABLES, A, B) "
+            + "one after the other is taken away (it has COUNT 0 then), if the ANSWER is still above 0; "
+            + "those that stay.");
         kernDue("the last of three ways", Made.done("loop(t0)", 0x01, 0x09, 0x19, 0x02, 0x29), 0, 9, 0x09);
         kernDue("the last of two", Made.done("loop(t0)", 0x01, 0x19, 0x02, 0x29), 0, 9, 0x02, 0x29);
         KeptAnswers tables = new KeptAnswers();
@@ -315,7 +323,8 @@ final class WhyEdges {
         KeptAnswers way = Made.done("loop(t0)", 0x01, 0x12);
         wantedDue("any to where one comes from", way, 2, 0, 0, 0x20);
         wantedDue("by 3 rows", way, 0, 0, 0, 0x00, 0x10, 0x20);
-        edges.sentence(30, "WANTED for an ANSWER of 0 are ROWS of a TABLE of which one more would make it above 0.");
+        edges.sentence(30,
+            "WANTED for an ANSWER of 0 are ROWS of a TABLE of which one more would make it above 0.");
         KeptAnswers owed = new KeptAnswers();
         owed.change(0, 1, 1, -1);
         owed.change(0, 2, 2, -2);
@@ -358,7 +367,8 @@ final class WhyEdges {
     }
 
     private void wantedMany() {
-        edges.sentence(30, "WANTED for an ANSWER of 0 are ROWS of a TABLE of which one more would make it above 0.");
+        edges.sentence(30,
+            "WANTED for an ANSWER of 0 are ROWS of a TABLE of which one more would make it above 0.");
         KeptAnswers join = new KeptAnswers();
         join.change(0, 1, 0, 1);
         join.change(0, 1, 15, -1);
