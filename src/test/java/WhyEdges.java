@@ -16,6 +16,8 @@ final class WhyEdges {
         wayLongest();
         wayOfOthers();
         without();
+        withoutWholeLines();
+        withoutBesideLoops();
         needed();
         kern();
         kernOneAfterTheOther();
@@ -165,6 +167,43 @@ final class WhyEdges {
         edges.due("as of 0", 0, edition.without(0, 0, 2, 2, 0, 1, 1));
         edges.due("as of 1", 1, edition.without(0, 1, 2, 2, 0, 1, 1));
         edges.due("as of 1, without it", 0, edition.without(0, 1, 2, 2, 0, 2, 2));
+    }
+
+    /** One row of table 0 is what all sixteen rows of one A come from. */
+    private void withoutWholeLines() {
+        edges.sentence(27, "if one ROW of a TABLE had COUNT 0 there.");
+        KeptAnswers x = new KeptAnswers();
+        x.change(0, 1, 3, 1);
+        for (int b = 0; b < 16; b++) {
+            x.change(1, 3, b, 2);
+        }
+        x.close();
+        Checks.ask(x, "flip(join(t0,t1))");
+        x.finish(0);
+        for (int b = 0; b < 16; b++) {
+            edges.due("with all, " + b, 2, x.without(0, 0, b, 1, 0, 9, 9));
+            edges.due("a whole line goes, " + b, 0, x.without(0, 0, b, 1, 0, 1, 3));
+            edges.due("one of it goes, " + b, b == 7 ? 0 : 2, x.without(0, 0, b, 1, 1, 3, 7));
+        }
+        edges.due("it is needed", 1, x.needed(0, 0, 15, 1, 0));
+    }
+
+    /** A loop that the row is not of stays as it is, whichever loop was worked ahead of it. */
+    private void withoutBesideLoops() {
+        edges.sentence(27, "WITHOUT: what ANSWER a QUESTION would have, as of an EDITION that is TOLD,");
+        KeptAnswers x = new KeptAnswers();
+        Made.tellOf(x, 0, 0x12, 0x23, 0x14);
+        Made.tellOf(x, 1, 0x35, 0x56);
+        x.close();
+        Checks.ask(x, "join(loop(t0),loop(t1))");
+        x.finish(0);
+        edges.due("by both loops", 1, x.answer(0, 0, 1, 6));
+        edges.due("without a row beside the way", 1, x.without(0, 0, 1, 6, 0, 1, 4));
+        edges.due("without one of the first loop's", 0, x.without(0, 0, 1, 6, 0, 2, 3));
+        edges.due("without one of the second's", 0, x.without(0, 0, 1, 6, 1, 5, 6));
+        edges.due("the shorter way stays", 1, x.without(0, 0, 1, 5, 1, 5, 6));
+        edges.due("two of the first are needed", 2, x.needed(0, 0, 1, 6, 0));
+        edges.due("two of the second are", 2, x.needed(0, 0, 1, 6, 1));
     }
 
     // ---- promise 28
