@@ -16,12 +16,9 @@ import java.util.regex.Pattern;
 /** The class's face is the document's, and its source keeps to what LANGUAGE.md leaves. */
 public final class FaceTest {
     private static final String SOURCE = "src/main/java/KeptAnswers.java";
-    /** Name and number of arguments, and the first letters of what it throws, in order. */
-    private static final String FACE = "change4 IxIl late5 IxIl room1 Il drop0 close0 Is rows4 IxIl "
-        + "feed5 question1 Il fault0 leave1 Ns nodes1 Ns shelf2 NsIx front2 NsIx work2 NsIx finish1 Ns "
-        + "weight5 NsIxIl answer4 NsIl size2 Ns row3 Ns changed3 NsIx since4 NsIx fold1 Il reader1 Il "
-        + "gone1 Ix way6 NsIxIl without7 NsIxIl needed5 NsIxIl kern5 NsIl wanted6 NsIxIl when4 NsIl "
-        + "unlike3 Ns digest3 NsIx ready2 Ns lacks2 Ns told2 IxIl back0 count1";
+    private static final String DOCUMENT = "../shared/DOC.md";
+    private static final Pattern FACE = Pattern.compile("(?s)## The public face\\s+```java(.*?)```");
+    private static final Pattern PROMISE = Pattern.compile("(?m)^## Promise \\d+: .*\\s+`([^`]*)`");
     private static final List<String> FORBIDDEN = List.of("\\bsynchronized\\b", "\\bassert\\b",
         "\\bfinally\\b", "\\bcatch\\b", "->", "::", "\\.hashCode\\(", "\\.toString\\(",
         "\\.getMessage\\(", "Exact\\(", "\\bdouble\\b", "\\bfloat\\b", "System\\.(?!arraycopy)",
@@ -31,10 +28,41 @@ public final class FaceTest {
     private static final Checks CHECK = new Checks("FaceTest");
 
     public static void main(String[] args) throws IOException {
+        String source = Files.readString(Path.of(SOURCE));
+        face(Files.readString(Path.of(DOCUMENT)), source);
         members();
         nested();
-        source(Files.readString(Path.of(SOURCE)));
+        source(source);
         CHECK.end();
+    }
+
+    /** Each line of the document's face stands in the source, names and throws too, and no other. */
+    private static void face(String document, String source) {
+        Matcher found = FACE.matcher(document);
+        CHECK.due("the document has a face", 1, found.find() ? 1 : 0);
+        Set<String> due = new TreeSet<>();
+        for (String line : found.group(1).split("[;{}]")) {
+            due.add(line.replaceAll("\\s+", " ").trim());
+        }
+        due.remove("");
+        Set<String> got = new TreeSet<>();
+        Matcher open = Pattern.compile("(?m)^( {4})?(import|public)\\b[^;{]*").matcher(source);
+        while (open.find()) {
+            got.add(open.group().replaceAll("\\s+", " ").trim());
+        }
+        // a library that LANGUAGE.md leaves may be named beside the face's own
+        got.remove("import java.util.Arrays");
+        CHECK.due("the source's face " + got + " is the document's " + due, 1, got.equals(due) ? 1 : 0);
+        Matcher promise = PROMISE.matcher(document);
+        int promises = 0;
+        while (promise.find()) {
+            promises++;
+            CHECK.due("promise " + promises + " has a line of the face: " + promise.group(1), 1,
+                got.contains("public " + promise.group(1)) ? 1 : 0);
+        }
+        CHECK.due("promises", 38, promises);
+        CHECK.due("NONE", -1, KeptAnswers.NONE);
+        CHECK.due("VOID", Integer.MIN_VALUE, KeptAnswers.VOID);
     }
 
     private static void members() {
@@ -42,17 +70,13 @@ public final class FaceTest {
         CHECK.due("public and final", Modifier.PUBLIC | Modifier.FINAL, face.getModifiers());
         Set<String> open = new TreeSet<>();
         Set<String> hidden = new TreeSet<>();
-        StringBuilder unlike = new StringBuilder();
         for (Method method : face.getDeclaredMethods()) {
-            if (Modifier.isPrivate(method.getModifiers())) {
-                hidden.add(method.getName());
-            } else {
-                open.add(method.getName());
-                unlike.append(check(method));
-            }
+            boolean isPrivate = Modifier.isPrivate(method.getModifiers());
+            (isPrivate ? hidden : open).add(method.getName());
+            CHECK.due(method + " is private or public", 1,
+                isPrivate || Modifier.isPublic(method.getModifiers()) ? 1 : 0);
         }
-        CHECK.due("methods unlike the document's: " + unlike, 0, unlike.length());
-        CHECK.due("how many methods", FACE.split("[0-9]").length, open.size());
+        CHECK.due("how many methods", 37, open.size());
         hidden.retainAll(open);
         CHECK.due("private methods with a public name: " + hidden, 0, hidden.size());
         for (Field field : face.getDeclaredFields()) {
@@ -64,19 +88,6 @@ public final class FaceTest {
         Constructor<?>[] constructors = face.getDeclaredConstructors();
         CHECK.due("constructors", 1, constructors.length);
         CHECK.due("its arguments", 0, constructors[0].getParameterCount());
-    }
-
-    private static String check(Method method) {
-        StringBuilder throwing = new StringBuilder();
-        for (Class<?> thrown : method.getExceptionTypes()) {
-            String name = thrown.getSimpleName();
-            throwing.append(name.startsWith("Index") ? "Ix" : name.startsWith("NoSuch") ? "Ns"
-                : name.startsWith("IllegalS") ? "Is" : "Il");
-        }
-        String want = (method.getName() + method.getParameterCount() + " " + throwing).trim();
-        boolean known = (FACE + " ").matches("(.* )?" + want + " ([a-z].*)?");
-        return known && Modifier.isPublic(method.getModifiers())
-            && method.getReturnType() == int.class ? "" : want + "; ";
     }
 
     private static void nested() {
